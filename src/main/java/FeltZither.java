@@ -1272,20 +1272,28 @@ public final class FeltZither {
             long low = 0L;
             long high = 0L;
             for (int a = 0; a < count; a++) {
+                if (!hasBit(set, a)) {
+                    continue;
+                }
                 for (int b = a; b < count; b++) {
-                    if (hasBit(set, a) && hasBit(set, b)) {
+                    if (hasBit(set, b)) {
                         low |= givenLow[a * OFFERS + b];
                         high |= givenHigh[a * OFFERS + b];
                     }
                 }
             }
-            int served = 0;
+            return songsWithin(low, high);
+        }
+
+        /** The songs that need none but these chords. */
+        private int songsWithin(long low, long high) {
+            int found = 0;
             for (int g = 0; g < songs; g++) {
                 if ((neededLow[g] & ~low) == 0 && (neededHigh[g] & ~high) == 0) {
-                    served |= 1 << g;
+                    found |= 1 << g;
                 }
             }
-            return served;
+            return found;
         }
 
         /** No set serves more than all offers do: the first one that serves as many is sought. */

@@ -698,6 +698,9 @@ public final class PromisesTest {
         due(26, "all", x.serves(7), 7);
         x.key(1, 2);
         due(26, "by the key", x.serves(7), 5);
+        x.key(1, 0);
+        due(26, "by the key as it was", x.serves(7), 7);
+        x.key(1, 2);
         due(26, "bars there are do not count", x.bar(G), 0);
         due(26, "still", x.serves(7), 5);
         x.tune(0, 25);
@@ -710,6 +713,31 @@ public final class PromisesTest {
         y.offer(A_MINOR_SEVENTH);
         chords(y, 95);
         due(26, "no two of them", y.serves(7), 0);
+        p26highChords();
+    }
+
+    private static void p26highChords() {
+        FeltZither x = chromatic(12);
+        x.offer(63);
+        x.offer(64);
+        x.offer(95);
+        chords(x, 63);
+        chords(x, 64);
+        chords(x, 95, 63);
+        chords(x, 91, 87);
+        int[] wants = {0, 1, 2, 3, 8, 13, 10, 15};
+        for (int set = 0; set < 8; set++) {
+            due(26, "high chords by " + set, x.serves(set), wants[set]);
+        }
+        x.key(2, 1);
+        due(26, "another key: 84 is not 95", x.serves(7), 11);
+        x.key(3, 1);
+        due(26, "nor 80 and 88", x.serves(7), 3);
+        x.key(2, 0);
+        x.key(3, 4);
+        due(26, "turned round by 4 they are what they were", x.serves(7), 15);
+        x.tune(9, 34);
+        due(26, "no string has a class of 64 now", x.serves(7), 13);
     }
 
     private static void p27fewest() {
@@ -756,6 +784,8 @@ public final class PromisesTest {
         y.offer(G);
         chords(y, G);
         due(28, "with the fewest offers", y.most(2), 2);
+        chords(y, F);
+        due(28, "of several the least", y.most(1), 1);
     }
 
     private static void p29build() {
@@ -1028,6 +1058,11 @@ public final class PromisesTest {
         x.string(30, false);
         x.felt(1, 3, true);
         due(37, "a string that was not there is not told of", x.worn(), 0);
+        x.unhear();
+        hear(x, 3, 1, 2, 2, 1);
+        due(37, "the first row tells of three", x.worn(), 3);
+        hear(x, 3, 2, 2, 2, 2);
+        due(37, "and still does", x.worn(), 3);
     }
 
     private static void p38sure() {
@@ -1078,6 +1113,10 @@ public final class PromisesTest {
         due(40, "1 more", x.otherwise(4, 1), 2);
         due(40, "its tone stays", x.ofString(4, 0), 27);
         due(40, "2 more", x.otherwise(4, 2), 0);
+        x.tune(4, 30);
+        due(40, "2 less", x.otherwise(4, -2), 2);
+        due(40, "1 less", x.otherwise(4, -1), 0);
+        x.tune(4, 27);
         due(40, "another string", x.otherwise(5, -1), 0);
         due(40, "0", x.otherwise(4, 0), OUTSIDE);
         due(40, "3", x.otherwise(4, 3), OUTSIDE);
@@ -1118,7 +1157,14 @@ public final class PromisesTest {
         due(41, "not more than now", x.best(0), NONE);
         due(41, "not more than now: d", x.best(1), 0);
         due(41, "not more than now: songs", x.best(2), NONE);
+        x.tune(0, 23);
+        due(41, "string 0", x.best(0), 0);
+        due(41, "by 1", x.best(1), 1);
+        x.tune(0, 0);
+        x.tune(7, 60);
+        due(41, "what is beyond the tones is left out", x.best(0), NONE);
         p41firstOfSeveral();
+        p41twelveBars();
     }
 
     private static void p41firstOfSeveral() {
@@ -1151,6 +1197,45 @@ public final class PromisesTest {
         due(41, "one song each", y.best(2), 1);
         write(y, C, 38);
         due(41, "the greatest ahead of the first", y.best(1), 2);
+    }
+
+    /** As many bars, songs, steps, offers as there may be; the last two bars make the only hold. */
+    private static void p41twelveBars() {
+        FeltZither x = chromatic(36);
+        for (int b = 0; b < 10; b++) {
+            x.bar(60 + b);
+        }
+        x.bar(C_SEVENTH);
+        x.bar(C_GREAT_SEVENTH);
+        for (int k = 0; k < 12; k++) {
+            x.offer(k < 10 ? 60 + k : k == 10 ? C_SEVENTH : C_GREAT_SEVENTH);
+        }
+        int[] cells = new int[48];
+        for (int i = 0; i < 24; i++) {
+            cells[2 * i + 1] = 24 + 12 * (i % 3);
+        }
+        for (int g = 0; g < 8; g++) {
+            due(19, "a song of 24", write(x, cells), g);
+        }
+        due(16, "the last two", x.hold(C), 3 << 10);
+        due(17, "of two", x.holds(2) > 0 ? 1 : 0, 1);
+        due(24, "all", x.playable(), 255);
+        due(34, "no trouble", x.trouble(7), 0);
+        for (int i = 0; i < 24; i++) {
+            due(35, "the last two", x.grip(7, i), 3 << 10);
+        }
+        due(27, "the last two", x.fewest(), 3 << 10);
+        due(28, "the last two", x.most(12), 3 << 10);
+        due(31, "no way", x.way(), 0);
+        due(32, "none", x.least(), 0);
+        due(33, "none", x.arrange(), 0);
+        due(41, "all can be played", x.best(0), NONE);
+        x.tune(12, 37);
+        due(41, "until one is missing", x.playable(), 0);
+        due(41, "which is found", x.best(0), 12);
+        due(41, "and by how much", x.best(1), -1);
+        due(41, "and for how many", x.best(2), 8);
+        due(29, "all twelve", x.build(4095), 12);
     }
 
     private static void p42sheet() {

@@ -1088,24 +1088,30 @@ public final class FeltZither {
             System.arraycopy(strings.ofTone, 0, ofTone, 0, TONES);
             Arrays.fill(found, NOT_SOUGHT);
             count = 0;
-            add(0, strings, rack);
+            add(0, 0L, strings);
             for (int a = 0; a < rack.count; a++) {
-                add(1 << a, strings, rack);
+                add(1 << a, rack.bars[a].wholeOnes(), strings);
             }
             for (int a = 0; a < rack.count; a++) {
                 for (int b = a + 1; b < rack.count; b++) {
-                    add(1 << a | 1 << b, strings, rack);
+                    long hushed = rack.bars[a].wholeOnes() | rack.bars[b].wholeOnes();
+                    add(1 << a | 1 << b, hushed, strings);
                 }
             }
         }
 
-        private void add(int set, Strings strings, Rack rack) {
+        private void add(int set, long hushed, Strings strings) {
             if (count < GRIPS) {
                 sets[count] = set;
-                sounding[count] = ~rack.hushed(set);
-                classBits[count] = strings.classesAmong(sounding[count]);
+                sounding[count] = ~hushed;
+                classBits[count] = strings.classesAmong(~hushed);
                 count++;
             }
+        }
+
+        /** The grip of a set of one bar, or of none. */
+        static int gripOf(int set) {
+            return set == 0 ? 0 : 1 + Integer.numberOfTrailingZeros(set);
         }
 
         int holdOf(int chord) {
@@ -1411,15 +1417,21 @@ public final class FeltZither {
 
     /** Plays a song with the least trouble. */
     private static final class Player {
+        private static final int FOR_A_BAR = 2;
+
         /** By step and grip: the least trouble from that step on, if that grip is pressed in it. */
         final int[] fromHere = new int[STEPS * GRIPS];
+        /** By grip: the least trouble of all steps behind the one in which it is pressed. */
+        final int[] behind = new int[GRIPS];
 
         void plan(Song song, Grips grips) {
+            Arrays.fill(behind, 0);
             for (int i = song.steps - 1; i >= 0; i--) {
                 for (int grip = 0; grip < grips.count; grip++) {
-                    int behind = i + 1 < song.steps ? leastFrom(i + 1, grips.sets[grip], grips) : 0;
-                    fromHere[i * GRIPS + grip] = troubleOf(song, i, grip, grips) + behind;
+                    behind[grip] += troubleOf(song, i, grip, grips);
+                    fromHere[i * GRIPS + grip] = behind[grip];
                 }
+                letBarsChange(grips);
             }
         }
 
@@ -1429,8 +1441,30 @@ public final class FeltZither {
             return 10 * Integer.bitCount(wrong) + note;
         }
 
+        /**
+         * Makes what a step costs from each grip on what it costs behind each grip. Bars are lifted
+         * first, then pressed, one by one: so there are never more than two, and it is enough to
+         * look at grips that are one bar apart.
+         */
+        private void letBarsChange(Grips grips) {
+            for (int grip = grips.count - 1; grip > 0; grip--) {
+                int set = grips.sets[grip];
+                ease(Grips.gripOf(set & set - 1), grip);
+                ease(Grips.gripOf(set ^ Integer.highestOneBit(set)), grip);
+            }
+            for (int grip = 1; grip < grips.count; grip++) {
+                int set = grips.sets[grip];
+                ease(grip, Grips.gripOf(set & set - 1));
+                ease(grip, Grips.gripOf(set ^ Integer.highestOneBit(set)));
+            }
+        }
+
+        private void ease(int grip, int oneBarApart) {
+            behind[grip] = Math.min(behind[grip], behind[oneBarApart] + FOR_A_BAR);
+        }
+
         int leastTrouble(Grips grips) {
-            return leastFrom(0, 0, grips);
+            return fromHere[firstBest(0, 0, grips)];
         }
 
         /** The set pressed in step i of the song that was planned, in the first least way. */
@@ -1442,10 +1476,7 @@ public final class FeltZither {
             return set;
         }
 
-        private int leastFrom(int i, int ahead, Grips grips) {
-            return troubleFrom(i, ahead, firstBest(i, ahead, grips), grips);
-        }
-
+        /** The first of the best grips for step i, if a set was pressed in the step ahead. */
         private int firstBest(int i, int ahead, Grips grips) {
             int first = 0;
             int least = troubleFrom(i, ahead, 0, grips);
@@ -1459,10 +1490,9 @@ public final class FeltZither {
             return first;
         }
 
-        /** The trouble from step i on with a grip there, if a set was pressed in the step ahead. */
         private int troubleFrom(int i, int ahead, int grip, Grips grips) {
             int changed = i == 0 ? 0 : Integer.bitCount(ahead ^ grips.sets[grip]);
-            return 2 * changed + fromHere[i * GRIPS + grip];
+            return FOR_A_BAR * changed + fromHere[i * GRIPS + grip];
         }
     }
 

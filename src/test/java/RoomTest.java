@@ -93,13 +93,17 @@ public final class RoomTest {
         com.sun.management.ThreadMXBean beans =
                 (com.sun.management.ThreadMXBean) ManagementFactory.getThreadMXBean();
         FeltZither x = large();
-        long sum = callMany(x);
         long here = Thread.currentThread().getId();
-        long once = beans.getThreadAllocatedBytes(here);
-        long ahead = beans.getThreadAllocatedBytes(here);
-        long asking = ahead - once;
-        sum += callMany(x);
-        long made = beans.getThreadAllocatedBytes(here) - ahead - asking;
-        CHECK.due("bytes made by some 600 calls (sum " + sum + ")", made, 0);
+        long sum = callMany(x);
+        long least = Long.MAX_VALUE;
+        // The machine itself may make something beside a call, but not each time.
+        for (int k = 0; k < 5; k++) {
+            long once = beans.getThreadAllocatedBytes(here);
+            long ahead = beans.getThreadAllocatedBytes(here);
+            sum += callMany(x);
+            long behind = beans.getThreadAllocatedBytes(here);
+            least = Math.min(least, behind - ahead - (ahead - once));
+        }
+        CHECK.due("bytes made by some 600 calls (sum " + sum + ")", least, 0);
     }
 }

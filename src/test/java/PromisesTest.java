@@ -1,28 +1,5 @@
 /** Each promise by itself: what is ordinary, the edges that the document names, and wrong inputs. */
-public final class PromisesTest {
-    private static final int UNKNOWN = -1;
-    private static final int OUTSIDE = -2;
-    private static final int STATE = -3;
-    private static final int FULL = -4;
-    private static final int NONE = -9;
-    private static final int NULL = -11;
-    private static final int CAST = -12;
-    private static final int INDEX = -13;
-    private static final int SIZE = -14;
-    private static final long LOST = Long.MIN_VALUE;
-    private static final int MIN = Integer.MIN_VALUE;
-    private static final int MAX = Integer.MAX_VALUE;
-
-    private static final int C = 0;
-    private static final int F = 5;
-    private static final int G = 7;
-    private static final int A_MINOR = 21;
-    private static final int C_SEVENTH = 24;
-    private static final int A_MINOR_SEVENTH = 45;
-    private static final int C_GREAT_SEVENTH = 72;
-
-    private static final Check CHECK = new Check("promises");
-
+public final class PromisesTest extends Bench {
     public static void main(String[] args) {
         p01NewObject();
         p02string();
@@ -80,42 +57,6 @@ public final class PromisesTest {
 
     private static void due(int promise, String what, long got, long want) {
         CHECK.due("promise " + promise + ": " + what, got, want);
-    }
-
-    /** A zither with one string of each tone from 24 on, none of them free. */
-    private static FeltZither chromatic(int strings) {
-        FeltZither x = new FeltZither();
-        for (int s = 0; s < strings; s++) {
-            x.string(24 + s, false);
-        }
-        return x;
-    }
-
-    /** A song of chords and notes by turns, written to sheet 3. */
-    private static int write(FeltZither x, int... cells) {
-        x.sheet(3, 2, cells.length);
-        for (int i = 0; i < cells.length; i++) {
-            x.put(3, i, cells[i]);
-        }
-        return x.song(3, 2, 0, cells.length / 2);
-    }
-
-    /** A song of chords without notes. */
-    private static int chords(FeltZither x, int... chords) {
-        int[] cells = new int[2 * chords.length];
-        for (int i = 0; i < chords.length; i++) {
-            cells[2 * i] = chords[i];
-            cells[2 * i + 1] = -1;
-        }
-        return write(x, cells);
-    }
-
-    private static int hear(FeltZither x, int set, int... cells) {
-        x.sheet(2, 0, cells.length);
-        for (int i = 0; i < cells.length; i++) {
-            x.put(2, i, cells[i]);
-        }
-        return x.heard(set, 2, 0, 0);
     }
 
     private static void p01NewObject() {

@@ -16,8 +16,8 @@ public final class CallsTest extends Bench {
         CHECK.finish();
     }
 
-    /** Each call of the face, with numbers that the small one and the full one take. */
-    private static Map<String, ToLongFunction<FeltZither>> questions() {
+    /** Each call that only asks, with numbers that the small one and the full one take. */
+    static Map<String, ToLongFunction<FeltZither>> questions() {
         Map<String, ToLongFunction<FeltZither>> calls = new LinkedHashMap<>();
         calls.put("ofString", x -> x.ofString(6, 3));
         calls.put("ofBar", x -> x.ofBar(2, 4));

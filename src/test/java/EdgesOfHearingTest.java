@@ -19,6 +19,7 @@ public final class EdgesOfHearingTest extends Bench {
         fewestWornOfOneRow();
         fewestWornOfSeveralRows();
         mostThatAreWorn();
+        eachBarHushesByItself();
         nobodyKnows();
         sureToBeWorn();
         sureToBeWhole();
@@ -338,6 +339,24 @@ public final class EdgesOfHearingTest extends Bench {
         x.put(0, 35, 0);
         due("another ROW", x.heard(1 << 11, 0, 0, 0), 1);
         due("that is against the first", x.worn(), NONE);
+    }
+
+    /** Of twelve bars each in its turn, the last one, too, is the only one with a felt. */
+    private static void eachBarHushesByItself() {
+        for (int b = 0; b < 12; b++) {
+            FeltZither x = strings(30, 31);
+            for (int k = 0; k < 12; k++) {
+                x.blank();
+            }
+            x.felt(b, 1, true);
+            hear(x, 1 << b, 1, 0);
+            due("pressed alone it hushes: nothing need be WORN, BAR " + b, x.worn(), 0);
+            due("it is SURE to be whole, BAR " + b, x.sure(b, 1), 0);
+            hear(x, 4095, 2, 0);
+            due("pressed with all others it hushes, BAR " + b, x.worn(), 0);
+            hear(x, 4095 & ~(1 << b), 2, 0);
+            due("all others do not hush, BAR " + b, x.worn(), NONE);
+        }
     }
 
     private static void nobodyKnows() {

@@ -15,6 +15,8 @@ public final class EdgesOfOffersTest extends Bench {
             servesJustItsChord(sort);
         }
         servesAlikeChords();
+        servesWithSeveralAlike();
+        servesAChordAgain();
         asStringsAreWhenAsked();
         fewestWithoutSongs();
         fewestOfAll();
@@ -156,6 +158,35 @@ public final class EdgesOfOffersTest extends Bench {
         due("and with another for two SONGS", x.serves(3), 3);
         x.tune(8, 31);
         due("until a STRING has another TONE", x.serves(3), 0);
+    }
+
+    /** However many sets of one or two give it: a chord is given. */
+    private static void servesWithSeveralAlike() {
+        FeltZither x = chromatic(12);
+        offers(x, 84, 88, 92, C, C_SEVENTH, C_GREAT_SEVENTH, A_MINOR_SEVENTH);
+        chords(x, 84);
+        chords(x, 88, 92);
+        chords(x, C);
+        for (int set = 0; set < 128; set++) {
+            boolean round = (set & 7) != 0;
+            boolean straight = (set & 8) != 0 || Integer.bitCount(set & 112) >= 2;
+            due("BARS of one of them, or of two: set " + set, x.serves(set), (round ? 3 : 0) | (straight ? 4 : 0));
+        }
+        due("FEWEST", x.fewest(), 1 | 8);
+    }
+
+    /** A chord that comes in several steps is needed all the same. */
+    private static void servesAChordAgain() {
+        for (int chord : new int[] {0, 31, 32, 63, 64, 83, 84, 95}) {
+            FeltZither x = chromatic(12);
+            x.offer(1);
+            x.offer(chord);
+            chords(x, chord, chord);
+            chords(x, chord, 1, chord, 1);
+            due("each STEP's CHORD, though it comes twice: " + chord, x.serves(1), 0);
+            due("the OFFER of it: " + chord, x.serves(2), 1);
+            due("both: " + chord, x.serves(3), 3);
+        }
     }
 
     private static void asStringsAreWhenAsked() {

@@ -203,6 +203,10 @@ public final class EdgesOfTheFrameTest extends Bench {
         due("one BAR", x.least(), 0);
         x.build(15);
         due("four again", x.least(), 6);
+        x.build(0);
+        due("no BARS, as if there had been none", x.least(), 0);
+        due("no BARS to be put", x.arrange(), 0);
+        due("no way", x.way(), 0);
     }
 
     private static void firstRowOfBars() {
